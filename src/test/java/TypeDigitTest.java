@@ -1,0 +1,57 @@
+import java.math.BigInteger;
+
+/** Promise 5. */
+public final class TypeDigitTest {
+    private static final int[] NO_DIGITS = {-1, 10, 11, -9, 16, 256, Integer.MIN_VALUE, Integer.MAX_VALUE};
+
+    public static void main(String[] args) {
+        typed("9223372036854775807", Long.MAX_VALUE);
+        typed("9223372036854775808", Long.MIN_VALUE);
+        typed("18446744073709551615", -1L);
+        typed("18446744073709551616", 0L);
+        typed("0007", 7L);
+        for (long value : Checks.values()) {
+            for (int digit = 0; digit <= 9; digit++) {
+                BigInteger exact = Checks.signed(value).multiply(BigInteger.TEN).add(BigInteger.valueOf(digit));
+                check(digit % Checks.REGISTERS, value, digit, exact.longValue());
+            }
+        }
+        for (int r = 0; r < Checks.REGISTERS; r++) {
+            check(r, -12L, 3, -117L);
+            for (int digit : NO_DIGITS) {
+                bad(r, digit);
+            }
+        }
+        for (int r : Checks.NO_REGISTERS) {
+            for (int digit = 0; digit <= 9; digit++) {
+                bad(r, digit);
+            }
+            bad(r, 10);
+        }
+        Checks.end();
+    }
+
+    private static void typed(String text, long want) {
+        HalfWords x = new HalfWords();
+        for (char c : text.toCharArray()) {
+            Checks.due("typeDigit(4, " + c + ")", x.typeDigit(4, c - '0'), 1);
+        }
+        Checks.changed("typing " + text, x, new long[Checks.REGISTERS], 4, want);
+    }
+
+    private static void check(int d, long value, int digit, long want) {
+        HalfWords x = Checks.filled(d, value, d, value);
+        long[] before = Checks.state(x);
+        String call = "typeDigit(" + d + ", " + digit + ") at " + value;
+        Checks.due(call, x.typeDigit(d, digit), 1);
+        Checks.changed(call, x, before, d, want);
+    }
+
+    private static void bad(int d, int digit) {
+        HalfWords x = Checks.filled();
+        long[] before = Checks.state(x);
+        String call = "typeDigit(" + d + ", " + digit + ")";
+        Checks.due(call, x.typeDigit(d, digit), HalfWords.BAD);
+        Checks.unchanged(call, x, before);
+    }
+}
