@@ -27,6 +27,18 @@ final class Checks {
         due(call, got ? 1L : 0L, want ? 1L : 0L);
     }
 
+    /** Runs the test of one sentence of the document, given in the document's words, and counts for it alone. */
+    static void sentence(String words, Runnable test) {
+        int answersBefore = answers;
+        int wrongBefore = wrong;
+        test.run();
+        int looked = answers - answersBefore;
+        if (looked == 0) {
+            wrong++;
+        }
+        System.out.println("\"" + words + "\": " + looked + " answers, " + (wrong - wrongBefore) + " not as due");
+    }
+
     static void end() {
         System.out.println(answers + " answers, " + wrong + " not as due");
         if (wrong != 0 || answers == 0) {

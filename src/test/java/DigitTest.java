@@ -3,38 +3,73 @@ public final class DigitTest {
     private static final int[] NEVER = {-1, -2, 19, 20, 64, 256, Integer.MIN_VALUE, Integer.MAX_VALUE};
 
     public static void main(String[] args) {
-        Checks.due("digit 0 of 0", at(0L).digit(3, 0), 0);
-        Checks.due("digit 1 of 0", at(0L).digit(3, 1), HalfWords.BAD);
-        Checks.due("digit 0 of -120", at(-120L).digit(3, 0), 0);
-        Checks.due("digit 2 of -120", at(-120L).digit(3, 2), 1);
-        Checks.due("digit 3 of -120", at(-120L).digit(3, 3), HalfWords.BAD);
-        Checks.due("digit 0 of the least long", at(Long.MIN_VALUE).digit(3, 0), 8);
-        Checks.due("digit 18 of the least long", at(Long.MIN_VALUE).digit(3, 18), 9);
+        Checks.sentence("without its sign, k = 0 the last one", DigitTest::withoutSignFromTheLast);
+        Checks.sentence("BAD if r is outside 0..5 or there is no digit k.", DigitTest::badOutside);
         for (long value : Checks.values()) {
-            eachDigit(value);
+            eachDigit(value, Checks.signed(value).abs().toString());
         }
+        Checks.end();
+    }
+
+    private static void withoutSignFromTheLast() {
+        read(0L, "0");
+        read(7L, "7");
+        read(-7L, "7");
+        read(120L, "120");
+        read(-120L, "120");
+        read(4294967296L, "4294967296");
+        read(1234567890987654321L, "1234567890987654321");
+        read(-1234567890987654321L, "1234567890987654321");
+        read(-1000000000000000000L, "1000000000000000000");
+        read(Long.MAX_VALUE, "9223372036854775807");
+        read(Long.MIN_VALUE, "9223372036854775808");
         for (int r = 0; r < Checks.REGISTERS; r++) {
             Checks.due("digit(" + r + ", 0)", Checks.filled().digit(r, 0), new int[] {3, 7, 0, 8, 7, 8}[r]);
         }
+    }
+
+    private static void read(long value, String text) {
+        HalfWords x = at(value);
+        for (int k = 0; k < text.length(); k++) {
+            int want = text.charAt(text.length() - 1 - k) - '0';
+            Checks.due("digit(3, " + k + ") of " + value, x.digit(3, k), want);
+        }
+    }
+
+    private static void badOutside() {
         for (int r : Checks.NO_REGISTERS) {
             bad(r, 0);
             bad(r, -1);
             bad(r, 19);
         }
-        Checks.end();
+        for (int k : NEVER) {
+            bad(4, k);
+        }
+        // The first k that is too great, after the last that is not.
+        lastIs(0L, 0, 0);
+        lastIs(9L, 0, 9);
+        lastIs(-9L, 0, 9);
+        lastIs(10L, 1, 1);
+        lastIs(-120L, 2, 1);
+        lastIs(Long.MAX_VALUE, 18, 9);
+        lastIs(Long.MIN_VALUE, 18, 9);
+    }
+
+    private static void lastIs(long value, int k, int want) {
+        Checks.due("digit(3, " + k + ") of " + value, at(value).digit(3, k), want);
+        Checks.due("digit(3, " + (k + 1) + ") of " + value, at(value).digit(3, k + 1), HalfWords.BAD);
     }
 
     private static HalfWords at(long value) {
         return Checks.filled(3, value, 3, value);
     }
 
-    private static void eachDigit(long value) {
-        String text = Checks.signed(value).abs().toString();
+    private static void eachDigit(long value, String text) {
         HalfWords x = at(value);
         long[] before = Checks.state(x);
-        for (int k = 0; k < 19; k++) {
-            int want = k < text.length() ? text.charAt(text.length() - 1 - k) - '0' : HalfWords.BAD;
-            Checks.due("digit(3, " + k + ") of " + value, x.digit(3, k), want);
+        read(value, text);
+        for (int k = text.length(); k < 19; k++) {
+            Checks.due("digit(3, " + k + ") of " + value, x.digit(3, k), HalfWords.BAD);
         }
         for (int k : NEVER) {
             Checks.due("digit(3, " + k + ") of " + value, x.digit(3, k), HalfWords.BAD);

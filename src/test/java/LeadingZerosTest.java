@@ -1,25 +1,45 @@
 /** Promise 9. */
 public final class LeadingZerosTest {
     public static void main(String[] args) {
-        check(0, 0L, 64);
-        check(1, 1L, 63);
-        check(2, -1L, 0);
-        check(3, Long.MIN_VALUE, 0);
-        check(4, Long.MAX_VALUE, 1);
-        check(5, 0xFFFFFFFFL, 32);
-        check(0, 0x100000000L, 31);
+        Checks.sentence("(64 for the value 0)", LeadingZerosTest::sixtyFourForZero);
+        Checks.sentence("BAD for r outside 0..5.", LeadingZerosTest::badOutside);
+        eachHighestBit();
         for (long value : Checks.values()) {
             for (int r = 0; r < Checks.REGISTERS; r++) {
                 check(r, value, 64 - Checks.unsigned(value).bitLength());
             }
         }
+        Checks.end();
+    }
+
+    private static void sixtyFourForZero() {
+        for (int r = 0; r < Checks.REGISTERS; r++) {
+            check(r, 0L, 64);
+            check(r, 1L, 63);
+            Checks.due("leadingZeros(" + r + ") of a new object", new HalfWords().leadingZeros(r), 64);
+        }
+    }
+
+    private static void eachHighestBit() {
+        for (int bit = 0; bit < 64; bit++) {
+            check(2, 1L << bit, 63 - bit);
+            check(2, -1L >>> (63 - bit), 63 - bit);
+        }
+        check(3, Long.MIN_VALUE, 0);
+        check(4, Long.MAX_VALUE, 1);
+        check(5, 0xFFFFFFFFL, 32);
+        check(0, 0x100000000L, 31);
+    }
+
+    private static void badOutside() {
         for (int r : Checks.NO_REGISTERS) {
             HalfWords x = Checks.filled();
             long[] before = Checks.state(x);
             Checks.due("leadingZeros(" + r + ")", x.leadingZeros(r), HalfWords.BAD);
             Checks.unchanged("leadingZeros(" + r + ")", x, before);
         }
-        Checks.end();
+        check(0, 2L, 62);
+        check(5, -1L, 0);
     }
 
     private static void check(int r, long value, int want) {

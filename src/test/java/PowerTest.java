@@ -1,36 +1,52 @@
 /** Promise 10. */
 public final class PowerTest {
     public static void main(String[] args) {
-        check(0, 1, 2, 0L, 0L, 1L);
-        check(0, 1, 2, Long.MIN_VALUE, 0L, 1L);
-        check(0, 1, 2, 0L, -1L, 0L);
-        check(0, 1, 2, 2L, 63L, Long.MIN_VALUE);
-        check(0, 1, 2, 2L, 64L, 0L);
-        check(0, 1, 2, -2L, 63L, Long.MIN_VALUE);
-        check(0, 1, 2, 10L, 18L, 1000000000000000000L);
-        // An exponent with the highest bit is 2^63 or more, not negative.
-        check(0, 1, 2, -1L, -1L, -1L);
-        check(0, 1, 2, -1L, Long.MIN_VALUE, 1L);
-        check(0, 1, 2, 2L, -1L, 0L);
-        check(0, 1, 2, 3L, Long.MIN_VALUE, 1L);
+        Checks.sentence("wrapping, with e taken as a number from 0 to 2^64 - 1 (any number to the power 0 is 1)",
+            PowerTest::wrapping);
+        Checks.sentence("A number outside 0..5: BAD.", PowerTest::badOutside);
         for (long base : Checks.edges()) {
             for (long exponent : Checks.edges()) {
-                check(0, 1, 2, base, exponent, due(base, exponent));
+                check(0, 1, 2, base, exponent, Model.power(base, exponent));
             }
         }
         long[] values = Checks.values();
         for (int i = 0; i < values.length; i++) {
             long exponent = values[values.length - 1 - i];
-            check(3, 4, 5, values[i], exponent, due(values[i], exponent));
+            check(3, 4, 5, values[i], exponent, Model.power(values[i], exponent));
         }
         bySteps();
         eachChoiceOfRegisters();
-        wrongInputs();
         Checks.end();
     }
 
-    private static long due(long base, long exponent) {
-        return Checks.unsigned(base).modPow(Checks.unsigned(exponent), Checks.TWO_64).longValue();
+    private static void wrapping() {
+        for (long base : Checks.edges()) {
+            check(0, 1, 2, base, 0L, 1L);
+            check(0, 1, 2, base, 1L, base);
+        }
+        check(0, 1, 2, 10L, 18L, 1000000000000000000L);
+        check(0, 1, 2, 10L, 19L, -8446744073709551616L);
+        check(0, 1, 2, 2L, 62L, 0x4000000000000000L);
+        check(0, 1, 2, 2L, 63L, Long.MIN_VALUE);
+        check(0, 1, 2, 2L, 64L, 0L);
+        check(0, 1, 2, -2L, 63L, Long.MIN_VALUE);
+        check(0, 1, 2, -2L, 64L, 0L);
+        check(0, 1, 2, 3L, 41L, -420491770248316829L);
+        check(0, 1, 2, Long.MIN_VALUE, 2L, 0L);
+        check(0, 1, 2, Long.MAX_VALUE, 2L, 1L);
+        check(0, 1, 2, 0L, 5L, 0L);
+        // An exponent with the highest bit is 2^63 or more, not negative.
+        check(0, 1, 2, 0L, -1L, 0L);
+        check(0, 1, 2, 0L, Long.MIN_VALUE, 0L);
+        check(0, 1, 2, 1L, -1L, 1L);
+        check(0, 1, 2, -1L, -1L, -1L);
+        check(0, 1, 2, -1L, -2L, 1L);
+        check(0, 1, 2, -1L, Long.MIN_VALUE, 1L);
+        check(0, 1, 2, 2L, -1L, 0L);
+        check(0, 1, 2, 2L, Long.MIN_VALUE, 0L);
+        check(0, 1, 2, 3L, Long.MIN_VALUE, 1L);
+        // 3 to the power 2^64 is 1, so 3 to the power 2^64 - 1 is the number whose product with 3 is 1.
+        check(0, 1, 2, 3L, -1L, -6148914691236517205L);
     }
 
     private static void bySteps() {
@@ -53,13 +69,15 @@ public final class PowerTest {
         }
     }
 
-    private static void wrongInputs() {
+    private static void badOutside() {
         for (int r : Checks.NO_REGISTERS) {
             bad(r, 0, 1);
             bad(0, r, 1);
             bad(0, 1, r);
             bad(r, r, r);
         }
+        check(0, 5, 5, 3L, 3L, 27L);
+        check(5, 0, 0, 3L, 3L, 27L);
     }
 
     private static void check(int d, int a, int e, long base, long exponent, long want) {
