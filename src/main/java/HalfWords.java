@@ -32,7 +32,7 @@ public final class HalfWords {
     /** The root of the greatest long: the square of any greater number leaves the range of long. */
     private static final long GREATEST_ROOT = 3037000499L;
 
-    /** Euclid's steps are most for neighbours in Fibonacci's row; below 2^63 these need fewer than 93. */
+    /** Euclid's steps are most for neighbours in Fibonacci's row; up to 2^63 these need fewer than 93. */
     private static final int MOST_EUCLID_STEPS = 128;
 
     private final long[] registers = new long[REGISTERS];

@@ -1,6 +1,12 @@
 /** Promise 4: every operation over many numbers and all registers; ApplyBoundaryTest has its sentences one by one. */
 public final class ApplyTest {
     public static void main(String[] args) {
+        Checks.sentence("Register d becomes a op b", ApplyTest::manyNumbers);
+        Checks.sentence("Else answers 1.", ApplyTest::eachChoiceOfRegisters);
+        Checks.end();
+    }
+
+    private static void manyNumbers() {
         for (long left : Checks.edges()) {
             for (long right : Checks.edges()) {
                 eachOperation(left, right);
@@ -11,8 +17,6 @@ public final class ApplyTest {
             eachOperation(values[i], values[(i * 37 + 11) % values.length]);
             eachOperation(values[i], values[values.length - 1 - i]);
         }
-        eachChoiceOfRegisters();
-        Checks.end();
     }
 
     private static void eachOperation(long left, long right) {

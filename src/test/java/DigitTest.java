@@ -3,12 +3,19 @@ public final class DigitTest {
     private static final int[] NEVER = {-1, -2, 19, 20, 64, 256, Integer.MIN_VALUE, Integer.MAX_VALUE};
 
     public static void main(String[] args) {
+        Checks.sentence("Decimal digit k of register r's value", DigitTest::manyNumbers);
         Checks.sentence("without its sign, k = 0 the last one", DigitTest::withoutSignFromTheLast);
         Checks.sentence("BAD if r is outside 0..5 or there is no digit k.", DigitTest::badOutside);
-        for (long value : Checks.values()) {
-            eachDigit(value, Checks.signed(value).abs().toString());
-        }
         Checks.end();
+    }
+
+    private static void manyNumbers() {
+        for (long value : Checks.values()) {
+            String text = Checks.signed(value).abs().toString();
+            for (int r = 0; r < Checks.REGISTERS; r++) {
+                eachDigit(r, value, text);
+            }
+        }
     }
 
     private static void withoutSignFromTheLast() {
@@ -29,11 +36,13 @@ public final class DigitTest {
     }
 
     private static void read(long value, String text) {
-        HalfWords x = at(value);
         for (int k = 0; k < text.length(); k++) {
-            int want = text.charAt(text.length() - 1 - k) - '0';
-            Checks.due("digit(3, " + k + ") of " + value, x.digit(3, k), want);
+            Checks.due("digit(3, " + k + ") of " + value, at(value).digit(3, k), fromTheLast(text, k));
         }
+    }
+
+    private static int fromTheLast(String text, int k) {
+        return text.charAt(text.length() - 1 - k) - '0';
     }
 
     private static void badOutside() {
@@ -64,15 +73,15 @@ public final class DigitTest {
         return Checks.filled(3, value, 3, value);
     }
 
-    private static void eachDigit(long value, String text) {
-        HalfWords x = at(value);
+    private static void eachDigit(int r, long value, String text) {
+        HalfWords x = Checks.filled(r, value, r, value);
         long[] before = Checks.state(x);
-        read(value, text);
-        for (int k = text.length(); k < 19; k++) {
-            Checks.due("digit(3, " + k + ") of " + value, x.digit(3, k), HalfWords.BAD);
+        for (int k = 0; k < 19; k++) {
+            int want = k < text.length() ? fromTheLast(text, k) : HalfWords.BAD;
+            Checks.due("digit(" + r + ", " + k + ") of " + value, x.digit(r, k), want);
         }
         for (int k : NEVER) {
-            Checks.due("digit(3, " + k + ") of " + value, x.digit(3, k), HalfWords.BAD);
+            Checks.due("digit(" + r + ", " + k + ") of " + value, x.digit(r, k), HalfWords.BAD);
         }
         Checks.unchanged("the digits of " + value, x, before);
     }

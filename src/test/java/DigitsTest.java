@@ -1,15 +1,19 @@
 /** Promise 6. */
 public final class DigitsTest {
     public static void main(String[] args) {
+        Checks.sentence("The number of decimal digits of register r's value", DigitsTest::manyNumbers);
         Checks.sentence("(1 for 0)", DigitsTest::oneForZero);
         Checks.sentence("without its sign", DigitsTest::withoutSign);
         Checks.sentence("BAD for r outside 0..5.", DigitsTest::badOutside);
+        Checks.end();
+    }
+
+    private static void manyNumbers() {
         for (long value : Checks.values()) {
             for (int r = 0; r < Checks.REGISTERS; r++) {
                 check(r, value, Checks.signed(value).abs().toString().length());
             }
         }
-        Checks.end();
     }
 
     private static void oneForZero() {

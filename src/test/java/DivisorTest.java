@@ -1,9 +1,16 @@
 /** Promise 11. */
 public final class DivisorTest {
     public static void main(String[] args) {
+        Checks.sentence("Register d becomes the greatest common divisor of the values of a and b",
+            DivisorTest::manyNumbers);
         Checks.sentence("without their signs, taken as numbers from 0 to 2^63 "
             + "(0 if both are 0; 2^63 is stored as the least long)", DivisorTest::withoutSigns);
         Checks.sentence("A number outside 0..5: BAD.", DivisorTest::badOutside);
+        Checks.sentence("Else answers 1.", DivisorTest::eachChoiceOfRegisters);
+        Checks.end();
+    }
+
+    private static void manyNumbers() {
         for (long left : Checks.edges()) {
             for (long right : Checks.edges()) {
                 check(0, 1, 2, left, right, due(left, right));
@@ -15,8 +22,6 @@ public final class DivisorTest {
             check(3, 4, 5, values[i], right, due(values[i], right));
         }
         longestRuns();
-        eachChoiceOfRegisters();
-        Checks.end();
     }
 
     private static long due(long left, long right) {

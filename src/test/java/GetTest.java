@@ -1,13 +1,22 @@
 /** Promise 3. */
 public final class GetTest {
     public static void main(String[] args) {
+        Checks.sentence("A register's value", GetTest::valueOfEachRegister);
+        Checks.sentence("0 for r outside 0..5.", GetTest::zeroOutside);
+        Checks.end();
+    }
+
+    private static void valueOfEachRegister() {
         HalfWords x = noneZero();
         for (int r = 0; r < Checks.REGISTERS; r++) {
             Checks.due("get(" + r + ")", x.get(r), Long.MIN_VALUE + r);
             Checks.due("get(" + r + ") again", x.get(r), Long.MIN_VALUE + r);
         }
-        Checks.sentence("0 for r outside 0..5.", GetTest::zeroOutside);
-        Checks.end();
+        for (long value : Checks.values()) {
+            for (int r = 0; r < Checks.REGISTERS; r++) {
+                Checks.due("get(" + r + ")", Checks.filled(r, value, r, value).get(r), value);
+            }
+        }
     }
 
     private static HalfWords noneZero() {

@@ -1,14 +1,9 @@
 /** Promise 9. */
 public final class LeadingZerosTest {
     public static void main(String[] args) {
+        Checks.sentence("The number of bits 0 above the highest bit 1 of register r", LeadingZerosTest::eachHighestBit);
         Checks.sentence("(64 for the value 0)", LeadingZerosTest::sixtyFourForZero);
         Checks.sentence("BAD for r outside 0..5.", LeadingZerosTest::badOutside);
-        eachHighestBit();
-        for (long value : Checks.values()) {
-            for (int r = 0; r < Checks.REGISTERS; r++) {
-                check(r, value, 64 - Checks.unsigned(value).bitLength());
-            }
-        }
         Checks.end();
     }
 
@@ -29,6 +24,11 @@ public final class LeadingZerosTest {
         check(4, Long.MAX_VALUE, 1);
         check(5, 0xFFFFFFFFL, 32);
         check(0, 0x100000000L, 31);
+        for (long value : Checks.values()) {
+            for (int r = 0; r < Checks.REGISTERS; r++) {
+                check(r, value, 64 - Checks.unsigned(value).bitLength());
+            }
+        }
     }
 
     private static void badOutside() {

@@ -1,9 +1,15 @@
 /** Promise 10. */
 public final class PowerTest {
     public static void main(String[] args) {
+        Checks.sentence("Register d becomes register a raised to the power of register e", PowerTest::manyNumbers);
         Checks.sentence("wrapping, with e taken as a number from 0 to 2^64 - 1 (any number to the power 0 is 1)",
             PowerTest::wrapping);
         Checks.sentence("A number outside 0..5: BAD.", PowerTest::badOutside);
+        Checks.sentence("Else answers 1.", PowerTest::eachChoiceOfRegisters);
+        Checks.end();
+    }
+
+    private static void manyNumbers() {
         for (long base : Checks.edges()) {
             for (long exponent : Checks.edges()) {
                 check(0, 1, 2, base, exponent, Model.power(base, exponent));
@@ -15,8 +21,6 @@ public final class PowerTest {
             check(3, 4, 5, values[i], exponent, Model.power(values[i], exponent));
         }
         bySteps();
-        eachChoiceOfRegisters();
-        Checks.end();
     }
 
     private static void wrapping() {

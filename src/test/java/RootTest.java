@@ -3,23 +3,22 @@ public final class RootTest {
     private static final long GREATEST = 3037000499L;
 
     public static void main(String[] args) {
-        Checks.sentence("the greatest whole number whose square is at most the value of register a (taken as signed)",
-            RootTest::greatestWholeNumber);
+        Checks.sentence("Register d becomes the greatest whole number whose square is at most the value of register a "
+            + "(taken as signed).", RootTest::greatestWholeNumber);
         Checks.sentence("d or a outside 0..5: BAD", RootTest::badOutside);
         Checks.sentence("register a is negative: ZERO, and nothing changes.", RootTest::zeroIfNegative);
-        for (long value : Checks.values()) {
-            if (value >= 0) {
-                check(4, 5, value, Checks.signed(value).sqrt().longValue());
-            } else {
-                refused(4, 5, value);
-            }
-        }
+        Checks.sentence("Else answers 1.", RootTest::eachChoiceOfRegisters);
+        Checks.end();
+    }
+
+    private static void eachChoiceOfRegisters() {
         for (int d = 0; d < Checks.REGISTERS; d++) {
             for (int a = 0; a < Checks.REGISTERS; a++) {
                 check(d, a, 1000001L, 1000L);
+                check(d, a, 0L, 0L);
+                check(d, a, Long.MAX_VALUE, GREATEST);
             }
         }
-        Checks.end();
     }
 
     private static void greatestWholeNumber() {
@@ -40,6 +39,11 @@ public final class RootTest {
             aroundSquare((1L << bit) + 1);
         }
         check(3, 3, 99L, 9L);
+        for (long value : Checks.values()) {
+            if (value >= 0) {
+                check(4, 5, value, Checks.signed(value).sqrt().longValue());
+            }
+        }
     }
 
     private static void aroundSquare(long root) {
@@ -68,6 +72,11 @@ public final class RootTest {
                 refused(d, a, -0x100000000L);
                 refused(d, a, Long.MIN_VALUE);
                 check(d, a, 0L, 0L);
+            }
+        }
+        for (long value : Checks.values()) {
+            if (value < 0) {
+                refused(4, 5, value);
             }
         }
     }

@@ -1,13 +1,17 @@
 /** Promise 2. */
 public final class SetTest {
     public static void main(String[] args) {
+        Checks.sentence("Sets a register.", SetTest::setsEachRegister);
         Checks.sentence("r outside 0..5: refused, answers false. Else true.", SetTest::refusedOutside);
+        Checks.end();
+    }
+
+    private static void setsEachRegister() {
         for (long value : Checks.values()) {
             for (int r = 0; r < Checks.REGISTERS; r++) {
                 accepted(r, value);
             }
         }
-        Checks.end();
     }
 
     private static void refusedOutside() {

@@ -5,15 +5,28 @@ public final class TypeDigitTest {
     private static final int[] NO_DIGITS = {-1, 10, 11, -9, 16, 256, Integer.MIN_VALUE, Integer.MAX_VALUE};
 
     public static void main(String[] args) {
+        Checks.sentence("Register d becomes 10 times its value plus digit", TypeDigitTest::manyNumbers);
         Checks.sentence("10 times its value plus digit, wrapping", TypeDigitTest::wrapping);
         Checks.sentence("d outside 0..5 or digit outside 0..9: BAD.", TypeDigitTest::badOutside);
+        Checks.sentence("Else answers 1.", TypeDigitTest::eachChoice);
+        Checks.end();
+    }
+
+    private static void manyNumbers() {
         for (long value : Checks.values()) {
             for (int digit = 0; digit <= 9; digit++) {
                 BigInteger exact = Checks.signed(value).multiply(BigInteger.TEN).add(BigInteger.valueOf(digit));
                 check(digit % Checks.REGISTERS, value, digit, exact.longValue());
             }
         }
-        Checks.end();
+    }
+
+    private static void eachChoice() {
+        for (int d = 0; d < Checks.REGISTERS; d++) {
+            for (int digit = 0; digit <= 9; digit++) {
+                check(d, 123L, digit, 1230L + digit);
+            }
+        }
     }
 
     private static void wrapping() {
